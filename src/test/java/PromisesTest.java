@@ -1,7 +1,7 @@
 /** Each promise of the document by hand: ordinary inputs, the named edges, wrong inputs. */
 public final class PromisesTest {
-    private static final int LEAST = Integer.MIN_VALUE;
-    private static final int GREATEST = Integer.MAX_VALUE;
+    private static final int LEAST = Desks.LEAST;
+    private static final int GREATEST = Desks.GREATEST;
     private static final Checks CHECKS = new Checks();
 
     public static void main(String[] args) {
@@ -46,23 +46,11 @@ public final class PromisesTest {
     }
 
     private static int packed(int must, int may, int worth) {
-        return must + 8 * may + 64 * worth;
-    }
-
-    /** The first plan as 24 characters: a task's number, or a point for none. */
-    private static String plan(ImpreciseDesk x) {
-        StringBuilder line = new StringBuilder();
-        for (int t = 0; t < 24; t++) {
-            int j = x.at(t);
-            line.append(j == ImpreciseDesk.NONE ? "." : String.valueOf(j));
-        }
-        return line.toString();
+        return Desks.packed(must, may, worth);
     }
 
     private static void duePlan(String where, ImpreciseDesk x, String want) {
-        String got = plan(x);
-        String padded = (want + "........................").substring(0, 24);
-        CHECKS.due(where + ": plan " + got + ", due is " + padded, got.equals(padded), true);
+        CHECKS.duePlan(where, x, want);
     }
 
     private static void newObject() {
@@ -479,7 +467,7 @@ public final class PromisesTest {
         x.bring(1, 9, packed(2, 3, 4));
         x.bring(3, 7, packed(3, 3, 6));
         x.block(4, true);
-        String before = plan(x) + x.loss() + x.tasks() + x.blocked();
+        String before = Desks.plan(x) + x.loss() + x.tasks() + x.blocked();
         int[] wild = {LEAST, LEAST + 1, -65, -1, 64 * 64, 1 << 24, GREATEST - 1, GREATEST};
         for (int v : wild) {
             due("wild bring", x.bring(v, v, v), -1);
@@ -494,7 +482,7 @@ public final class PromisesTest {
             due("wild lossWithout", x.lossWithout(v), -1);
             due("wild freeable", x.freeable(v, v), -1);
         }
-        String after = plan(x) + x.loss() + x.tasks() + x.blocked();
+        String after = Desks.plan(x) + x.loss() + x.tasks() + x.blocked();
         due("wild: " + before + " became " + after, before.equals(after), true);
     }
 }
