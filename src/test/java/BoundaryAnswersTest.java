@@ -27,7 +27,7 @@ public final class BoundaryAnswersTest {
         CHECKS.sentence("13: that a plan can leave ungiven", BoundaryAnswersTest::freeableByAnyPlan);
         CHECKS.sentence("13: (blocked ones not counted)", BoundaryAnswersTest::freeableBlocked);
         CHECKS.sentence("13: NONE unless 0 <= a < b <= 24", BoundaryAnswersTest::freeableNoSpan);
-        CHECKS.sentence("14: The number of units that the best plans leave ungiven",
+        CHECKS.sentence("14: The number of units .. that the best plans leave ungiven",
                 BoundaryAnswersTest::idle);
         CHECKS.sentence("14: blocked ones not counted", BoundaryAnswersTest::idleBlocked);
         CHECKS.sentence("Nothing is promised beyond the answers and state changes described above",
@@ -36,10 +36,6 @@ public final class BoundaryAnswersTest {
     }
 
     private static void due(String call, long got, long want) {
-        CHECKS.due(call, got, want);
-    }
-
-    private static void due(String call, boolean got, boolean want) {
         CHECKS.due(call, got, want);
     }
 

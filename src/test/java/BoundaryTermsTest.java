@@ -34,7 +34,7 @@ public final class BoundaryTermsTest {
         CHECKS.sentence("of all those, the numbers kept, read in the order of tasks, are greatest in the "
                 + "dictionary order", BoundaryTermsTest::bestPlansAreGreatestInOrder);
         CHECKS.sentence("THE FIRST PLAN is the best plan", BoundaryTermsTest::firstPlanIsABestPlan);
-        CHECKS.sentence("whose units, from 0 to 23, read as the number of the task that has the unit, are "
+        CHECKS.sentence("whose units, from 0 to 23, read as the number of the task that has the unit .. are "
                 + "least in the dictionary order", BoundaryTermsTest::firstPlanIsLeast);
         CHECKS.sentence("and 9 for a unit that none has", BoundaryTermsTest::aLeftUnitReadsAsNine);
         CHECKS.end();
@@ -72,6 +72,13 @@ public final class BoundaryTermsTest {
         due("call 511, at", x.at(2), 0);
         due("call 512, tasks", x.tasks(), 1);
         due("the calls counted", calls + 8, 512);
+        // later answers are free, but LANGUAGE.md lets no call throw in any state
+        for (int k = 0; k < 600; k++) {
+            x.bring(k % 24, 24, Desks.packed(1, 1, 1));
+            x.block(k % 25, k % 3 == 0);
+            x.at(k % 25);
+            x.take(k % 7);
+        }
     }
 
     private static void unitsZeroToTwentyThree() {
