@@ -54,7 +54,7 @@ final class Desks {
         return line.toString();
     }
 
-    /** What a desk answers to the calls that change nothing; 67 calls. */
+    /** What a desk answers to the calls that change nothing; 66 calls. */
     static String look(ImpreciseDesk x) {
         StringBuilder line = new StringBuilder(plan(x));
         line.append(" tasks ").append(x.tasks()).append(" blocked ").append(x.blocked());
