@@ -24,6 +24,7 @@ public final class PromisesTest {
         keptIsNotTradedForManySmallOnes();
         atTakesTheLeastNumbersFirst();
         atSkipsBlockedUnits();
+        atDoesNotCountOnBlockedUnits();
         atGoesByNumberNotByWorth();
         greatestMust();
         greatestMustBesideOthers();
@@ -331,6 +332,15 @@ public final class PromisesTest {
         duePlan("blocked units", x, "..0.00" + "................" + "1");
         x.block(3, false);
         duePlan("unblocked unit", x, "..000." + "................" + "1");
+    }
+
+    private static void atDoesNotCountOnBlockedUnits() {
+        ImpreciseDesk x = new ImpreciseDesk();
+        x.bring(0, 10, packed(1, 0, 1));
+        x.bring(0, 2, packed(1, 0, 1));
+        duePlan("task 1 can wait for unit 1", x, "01");
+        x.block(1, true);
+        duePlan("task 1 can't wait for a blocked unit", x, "1.0");
     }
 
     private static void atGoesByNumberNotByWorth() {
